@@ -20,7 +20,6 @@ public final class FamilyNames {
     private final Tape tape;
     private final TextReader textReader;
     private final Words words;
-    private final Covering covering;
     private final Books books;
     private final Lines lines;
     private final Origins origins;
@@ -38,7 +37,6 @@ public final class FamilyNames {
         told = new Rules();
         spare = new Rules();
         words = new Words(told);
-        covering = new Covering();
         books = new Books();
         lines = new Lines(words, books);
         origins = new Origins(lines, books);
@@ -141,7 +139,7 @@ public final class FamilyNames {
         if (what == 2) {
             return words.howManyNames();
         }
-        int chosen = covering.fewest(words.joined, words.size);
+        int chosen = Covering.fewest(words.joined, words.size);
         return what == 0 ? Integer.bitCount(chosen) : chosen;
     }
 
@@ -603,7 +601,7 @@ public final class FamilyNames {
     private static final class TextReader {
         private static final int END = 0, NAME = 1, NUMBER = 2, STOP = 3, NO_TOKEN = 4;
         private static final int LEXICAL = 1, MISPLACED = 2, BOUNDS = 3, TWICE = 4, TOO_MANY = 5;
-        private static final int MOST_NUMBER = 20, MOST_SONS = 9;
+        private static final int MOST_FIGURES = 2, MOST_NUMBER = 20, MOST_SONS = 9;
 
         private final Tape tape;
         private Rules rules;
@@ -786,42 +784,30 @@ public final class FamilyNames {
             }
             start = next;
             value = 0;
-            int sign = tape.byteAt(next);
-            if (next >= tape.length) {
-                kind = END;
-            } else if (isLetter(sign)) {
-                kind = NAME;
-                readName();
-            } else if (isFigure(sign)) {
-                readNumber();
-                kind = next - start > 2 ? NO_TOKEN : NUMBER;
-            } else {
-                kind = sign == ';' ? STOP : NO_TOKEN;
+            kind = next < tape.length ? kindOf(tape.byteAt(next)) : END;
+            if (kind == STOP || kind == NO_TOKEN) {
+                next++;
+            }
+            boolean grows = kind == NAME || kind == NUMBER;
+            while (grows && next < tape.length && kindOf(tape.byteAt(next)) == kind) {
+                int sign = tape.byteAt(next);
+                value = kind == NAME ? value * 32 + sign - 'a' + 1 : value * 10 + sign - '0';
                 next++;
             }
             length = next - start;
-        }
-
-        private void readName() {
-            while (next < tape.length && isLetter(tape.byteAt(next))) {
-                value = value * 32 + tape.byteAt(next) - 'a' + 1;
-                next++;
+            if (kind == NUMBER && length > MOST_FIGURES) {
+                kind = NO_TOKEN;
             }
         }
 
-        private void readNumber() {
-            while (next < tape.length && isFigure(tape.byteAt(next))) {
-                value = value * 10 + tape.byteAt(next) - '0';
-                next++;
+        private static int kindOf(int sign) {
+            if (sign >= 'a' && sign <= 'z') {
+                return NAME;
             }
-        }
-
-        private static boolean isLetter(int sign) {
-            return sign >= 'a' && sign <= 'z';
-        }
-
-        private static boolean isFigure(int sign) {
-            return sign >= '0' && sign <= '9';
+            if (sign >= '0' && sign <= '9') {
+                return NUMBER;
+            }
+            return sign == ';' ? STOP : NO_TOKEN;
         }
     }
 
@@ -1084,45 +1070,40 @@ public final class FamilyNames {
         }
     }
 
-    /** STANDING: the fewest that cover all, each covering the bits of its row. */
+    /** STANDING: the fewest rows whose bits cover all. */
     private static final class Covering {
-        private int[] covers;
-        private int all;
+        private Covering() {
+        }
 
-        int fewest(int[] rows, int many) {
-            if (many <= 0 || many > Words.MOST || many > rows.length) {
+        static int fewest(int[] covers, int many) {
+            if (many <= 0 || many > covers.length) {
                 return 0;
             }
-            covers = rows;
-            all = (1 << many) - 1;
+            int all = (1 << many) - 1;
             int enough = 1;
-            while (enough < many && !suffices(all, 0, enough)) {
+            while (enough < many && !suffices(covers, all, all, enough)) {
                 enough++;
             }
             // The least sum leaves out the highest ones first, wherever the rest still suffices.
             int chosen = all;
             for (int s = many - 1; s >= 0; s--) {
-                if (suffices(chosen & ~(1 << s), 0, enough)) {
+                if (suffices(covers, chosen & ~(1 << s), all, enough)) {
                     chosen &= ~(1 << s);
                 }
             }
             return chosen;
         }
 
-        /** Goes no deeper than left, that is sixteen levels. */
-        private boolean suffices(int allowed, int covered, int left) {
-            int open = all & ~covered;
-            if (open == 0) {
-                return true;
-            }
-            if (left <= 0) {
-                return false;
+        /** Whether some of those allowed, as many as left at most, cover what is open; left is the depth. */
+        private static boolean suffices(int[] covers, int allowed, int open, int left) {
+            if (open == 0 || left <= 0) {
+                return open == 0;
             }
             // One of those that cover the lowest open one must be chosen.
             int choices = covers[Integer.numberOfTrailingZeros(open)] & allowed;
             for (int s = 0; s < covers.length; s++) {
                 boolean choice = (choices >> s & 1) == 1;
-                if (choice && suffices(allowed, covered | covers[s], left - 1)) {
+                if (choice && suffices(covers, allowed, open & ~covers[s], left - 1)) {
                     return true;
                 }
             }

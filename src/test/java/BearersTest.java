@@ -224,6 +224,14 @@ public final class BearersTest {
         Due.due("100 by 20 is 5", x.pace(0), 20);
         x.line(1, 1623, 0, 0);
         Due.due("none up to 20", x.pace(0), FamilyNames.NONE);
+        FamilyNames far = Due.withWords("a");
+        far.place(0, 0);
+        far.place(42, 0);
+        far.book(0, 1600, 1663);
+        far.book(1, 1600, 1663);
+        far.line(0, 1600, 0, 0);
+        far.line(1, 1620, 0, 0);
+        Due.due("420 by 21 is 20, but that is too fast", far.pace(0), FamilyNames.NONE);
         FamilyNames spot = Due.withWords("a");
         spot.place(1, 1);
         spot.place(1, 1);

@@ -104,6 +104,15 @@ public final class KinTest {
         Due.due("no line", x.issue(-1, 0), FamilyNames.BAD);
         x.again(0, 1);
         Due.due("of another name now", x.issue(0, 1), 3);
+        FamilyNames y = Due.withWords("a", "zzzzzz");
+        y.place(0, 0);
+        y.book(0, 1600, 1663);
+        y.line(0, 1650, 1, 0);
+        y.line(0, 1600, 0, 0);
+        y.father(0, 1);
+        for (int what = 0; what < 3; what++) {
+            Due.due("line 0 comes of line 1, " + what, y.issue(1, what), 1);
+        }
     }
 
     /** From 1500 to 1899 there is room for 27 generations. */

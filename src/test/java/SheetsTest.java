@@ -237,6 +237,8 @@ public final class SheetsTest {
         }
         x.again(2, 0);
         Due.due("one name now", x.count(6), 1);
+        x.again(0, 2);
+        Due.due("the first line's too", x.count(6), 2);
         Due.due("what", x.count(-1), FamilyNames.BAD);
         Due.due("what", x.count(9), FamilyNames.BAD);
     }

@@ -45,6 +45,7 @@ public final class SpellingsTest {
         Due.due("ten letters", x.spelling(Due.word("zzzzzzzzzz")), 0);
         Due.due("one letter", x.spelling(1), 1);
         Due.due("there already", x.spelling(1), FamilyNames.BAD);
+        Due.due("there already", x.spelling(Due.word("zzzzzzzzzz")), FamilyNames.BAD);
         for (int i = 2; i < 16; i++) {
             Due.due("spelling " + i, x.spelling(i), i);
         }
@@ -209,6 +210,11 @@ public final class SpellingsTest {
         Due.tell(star, "drop 20;join 4;");
         Due.due("one in the middle", star.standing(0), 1);
         Due.due("the one in the middle", star.standing(1), 8);
+        FamilyNames middle = Due.withWords("aaaa", "aabb", "aaab");
+        Due.due("one ahead of two with a less sum", middle.standing(0), 1);
+        Due.due("one ahead of two with a less sum", middle.standing(1), 4);
+        FamilyNames one = Due.withWords("a");
+        Due.due("the only one", one.standing(1), 1);
         FamilyNames alone = new FamilyNames();
         for (int s = 0; s < 16; s++) {
             alone.spelling(s + 1);

@@ -153,6 +153,11 @@ public final class TextTest {
         fault("sayab c;", 0, 2);
         fault("drops 1;", 0, 2);
         fault("dro 1;", 0, 2);
+        for (String near : new String[] {"pay a b;", "lute a;", "bike a b 1;", "crop 1;", "ather 1;", "coin 1;",
+            "tiles 1;", "tons 1 1 1 1;", "sax a b;", "mutt a;", "likf a b 1;", "dror 1;", "othes 1;", "joid 1;",
+            "milet 1;", "sont 1 1 1 1;"}) {
+            fault(near, 0, 2);
+        }
         fault("say a b;  mile 1;", 10, 2);
         StringBuilder blanks = new StringBuilder("drop 1");
         while (blanks.length() < 200) {
@@ -218,6 +223,11 @@ public final class TextTest {
     /** A token is read when the one before has been taken, and the first fault counts. */
     private static void firstFault() {
         fault("drop 21!", 5, 3);
+        fault("drop 1;drop 2;!", 7, 4);
+        fault("sons 1 1 1 1;sons 1 1 1 1;!", 13, 4);
+        fault("drop 1;drop", 7, 4);
+        fault("drop 21;!", 5, 3);
+        fault("join a;!", 5, 2);
         fault("drop 1;drop!", 7, 4);
         fault("sons 5 5!", 7, 3);
         fault("like a a 123;", 7, 3);

@@ -10,13 +10,11 @@ public final class ModelTest {
     private final FamilyNames x = new FamilyNames();
     private final Model m = new Model();
     private final String run;
-    private final int mostWords;
     private int words, places, books, lines;
 
     private ModelTest(int seed) {
         chance = new Random(seed);
         run = "run " + seed + ": ";
-        mostWords = SMALL_WORDS;
     }
 
     public static void main(String[] args) {
@@ -33,7 +31,7 @@ public final class ModelTest {
         for (int i = 0; i < CALLS; i++) {
             switch (chance.nextInt(6)) {
                 case 0: aboutWords(); break;
-                case 1: chance3(); break;
+                case 1: aboutTextOrChains(); break;
                 case 2: aboutBooks(); break;
                 case 3: aboutLines(); break;
                 case 4: aboutOrigins(); break;
@@ -42,7 +40,7 @@ public final class ModelTest {
         }
     }
 
-    private void chance3() {
+    private void aboutTextOrChains() {
         if (chance.nextInt(3) == 0) {
             aboutText();
         } else {
@@ -74,12 +72,11 @@ public final class ModelTest {
 
     private void aboutWords() {
         int s = of(words), t = of(words);
-        if (words < mostWords || chance.nextInt(40) == 0) {
-            long word = chance.nextInt(8) == 0 ? chance.nextInt(3000) - 20 : Due.word(letters(5));
-            if (words < mostWords) {
-                same("spelling " + word, x.spelling(word), m.spelling(word));
-                words = m.count(0);
-            }
+        // Few spellings, as the model tries every chain.
+        if (words < SMALL_WORDS) {
+            long word = chance.nextInt(8) == 0 ? chance.nextInt(3000) - 20 : Due.word(letters(chance.nextInt(4) == 0 ? 10 : 5));
+            same("spelling " + word, x.spelling(word), m.spelling(word));
+            words = m.count(0);
         }
         same("letters " + s, x.letters(s), m.letters(s));
         same("sound " + s, x.sound(s), m.sound(s));

@@ -83,7 +83,7 @@ public final class SpellingsTest {
     }
 
     private static void longSounds() {
-        FamilyNames x = Due.withWords("abcdefaaaa", "aaaaaaaaaa", "bcaaaaa");
+        FamilyNames x = Due.withWords("abcdefaaaa", "aaaaaaaaaa", "bcaaaaa", "ccbcdeaaaa", "ucbcdeaaaa");
         Due.tell(x, "say a yz;");
         Due.due("fifteen", x.sounds(0), 15);
         Due.due("its last twelve", x.sound(0), Due.word("cdefyzyzyzyz") & (1L << 60) - 1);
@@ -91,6 +91,8 @@ public final class SpellingsTest {
         Due.due("its last twelve", x.sound(1), Due.word("yzyzyzyzyzyz"));
         Due.due("just twelve", x.sounds(2), 12);
         Due.due("just twelve", x.sound(2), Due.word("bcyzyzyzyzyz"));
+        Due.due("not one bit of the one ahead", x.sound(3), Due.word("cbcdeyzyzyzyz") & (1L << 60) - 1);
+        Due.due("fourteen and fourteen, alike at their ends", x.sound(4), x.sound(3));
         Due.due("twenty and twelve apart", x.apart(1, 2), 8 * 3 + 2 * 4);
     }
 

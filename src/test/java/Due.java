@@ -1,19 +1,39 @@
 import java.nio.charset.StandardCharsets;
 import java.util.Arrays;
 
-/** What the tests share: answers that are due, words as letters, texts for the tape. */
+/** What the tests share: sentences of the document, answers that are due, words, texts for the tape. */
 final class Due {
     private static int wrong = 0;
     private static int asked = 0;
+    private static String sentence = "";
+    private static int askedAhead = -1;
 
     private Due() {
+    }
+
+    /** What follows looks at these words of a promise; SentencesTest finds them in the document. */
+    static void promise(int number, String words) {
+        begin("Promise " + number + ": " + words);
+    }
+
+    /** What follows looks at these words of the document's 'Terms'. */
+    static void terms(String words) {
+        begin("Terms: " + words);
+    }
+
+    private static void begin(String next) {
+        if (asked == askedAhead) {
+            holds("something is asked", false);
+        }
+        askedAhead = asked;
+        sentence = "[" + next + "] ";
     }
 
     static void due(String call, long got, long want) {
         asked++;
         if (got != want) {
             wrong++;
-            System.out.println(call + " answered " + got + ", due is " + want);
+            System.out.println(sentence + call + " answered " + got + ", due is " + want);
         }
     }
 
@@ -21,12 +41,13 @@ final class Due {
         asked++;
         if (!is) {
             wrong++;
-            System.out.println("does not hold: " + what);
+            System.out.println(sentence + "does not hold: " + what);
         }
     }
 
     /** The last call of every test: it fails too if nothing was asked. */
     static void finish() {
+        begin("the end");
         System.out.println(asked + " asked, " + wrong + " wrong");
         if (wrong != 0 || asked == 0) {
             System.exit(1);

@@ -1,10 +1,18 @@
 /** Promises 30 to 33: fathers, kin, related, issue. */
 public final class KinTest {
+    private static final int[] NO_LINE = {8, -1, 40, Integer.MIN_VALUE, Integer.MAX_VALUE};
+
     public static void main(String[] args) {
+        fifteenYears();
         father();
+        fatherRefused();
+        leastSteps();
         kin();
         related();
+        relatedByWhatHolds();
         issue();
+        issueOfAnotherName();
+        mostSteps();
         longLine();
         Due.finish();
     }
@@ -21,6 +29,7 @@ public final class KinTest {
         return x;
     }
 
+    /** Of 0 come 1 and 2, of 1 comes 3, of 2 comes 4, of 4 comes 5; 6 and 7 stand alone. */
     private static FamilyNames family() {
         FamilyNames x = eightLines();
         int[][] fathers = {{1, 0}, {2, 0}, {3, 1}, {4, 2}, {5, 4}};
@@ -30,80 +39,132 @@ public final class KinTest {
         return x;
     }
 
+    private static void fifteenYears() {
+        Due.terms("FATHER of a LINE: another LINE, of a year at least 15 ahead of it, told by hand.");
+        FamilyNames x = eightLines();
+        Due.due("none is told by itself", x.lineOf(1, 5), FamilyNames.NONE);
+        Due.due("14 years", x.father(6, 0), -6);
+        Due.due("15 years", x.father(1, 0), FamilyNames.NONE);
+        Due.due("60 years", x.father(7, 0), FamilyNames.NONE);
+        Due.due("itself", x.father(1, 1), -6);
+        Due.due("of one year", x.father(2, 1), -6);
+        Due.due("the wrong way round", x.father(0, 1), -6);
+        x.book(0, 1560, 1599);
+        x.line(1, 1585, 1, 3);
+        Due.due("of another book, another name, copied, told later", x.father(0, 8), FamilyNames.NONE);
+    }
+
     private static void father() {
         FamilyNames x = eightLines();
-        Due.due("15 years", x.father(1, 0), FamilyNames.NONE);
-        Due.due("told", x.lineOf(1, 5), 0);
-        Due.due("14 years", x.father(6, 0), -6);
-        Due.due("refused", x.lineOf(6, 5), FamilyNames.NONE);
-        Due.due("itself", x.father(1, 1), -6);
-        Due.due("the wrong way round", x.father(0, 1), -6);
-        Due.due("another", x.father(5, 1), FamilyNames.NONE);
-        Due.due("what it was", x.father(5, 3), 1);
-        Due.due("what it was", x.father(5, 3), 3);
-        Due.due("refused keeps it", x.father(5, 7), -6);
-        Due.due("none", x.father(5, FamilyNames.NONE), 3);
-        Due.due("none was", x.father(5, FamilyNames.NONE), FamilyNames.NONE);
-        int[][] bad = {{8, 0}, {-1, 0}, {1, 8}, {1, -1}, {1, -3}, {1, -5}, {-4, -4}, {8, FamilyNames.NONE}};
-        for (int[] a : bad) {
-            Due.due("father " + a[0] + " " + a[1], x.father(a[0], a[1]), -5);
+        Due.promise(30, "FATHER of a LINE becomes another LINE (NONE: none):");
+        x.father(5, 1);
+        Due.due("1", x.lineOf(5, 5), 1);
+        x.father(5, 3);
+        Due.due("3", x.lineOf(5, 5), 3);
+        x.father(5, FamilyNames.NONE);
+        Due.due("none", x.lineOf(5, 5), FamilyNames.NONE);
+        x.father(5, 0);
+        Due.due("0", x.lineOf(5, 5), 0);
+        Due.promise(30, "what it was.");
+        Due.due("0", x.father(5, 1), 0);
+        Due.due("1", x.father(5, 1), 1);
+        Due.due("1", x.father(5, FamilyNames.NONE), 1);
+        Due.due("none", x.father(5, FamilyNames.NONE), FamilyNames.NONE);
+        Due.due("none", x.father(5, 1), FamilyNames.NONE);
+    }
+
+    private static void fatherRefused() {
+        FamilyNames x = family();
+        Due.promise(30, "BAD -5;");
+        for (int v : NO_LINE) {
+            Due.due("line " + v, x.father(v, 0), -5);
+            Due.due("father " + v, x.father(1, v), -5);
+            Due.due("line " + v + ", none", x.father(v, FamilyNames.NONE), -5);
         }
+        for (int f : new int[] {-2, -3, -5, -6}) {
+            Due.due("father " + f, x.father(1, f), -5);
+        }
+        Due.due("line -4", x.father(-4, -4), -5);
         Due.due("still", x.lineOf(1, 5), 0);
+        Due.promise(30, "STATE -6: its year is not at least 15 ahead.");
+        Due.due("14 years", x.father(6, 0), -6);
+        Due.due("still none", x.lineOf(6, 5), FamilyNames.NONE);
+        Due.due("later", x.father(5, 7), -6);
+        Due.due("still", x.lineOf(5, 5), 4);
+        Due.due("his own son", x.father(0, 1), -6);
+    }
+
+    private static void leastSteps() {
+        Due.terms("KIN of two LINES: the least sum of steps to a LINE that both come of (0: one and the same).");
+        FamilyNames x = family();
+        for (int k = 0; k < 8; k++) {
+            Due.due("one and the same, " + k, x.kin(k, k), 0);
+        }
+        int[][] due = {{1, 0, 1}, {1, 2, 2}, {3, 4, 4}, {3, 5, 5}, {1, 4, 3}, {5, 0, 3}, {2, 5, 2}, {1, 3, 1}};
+        for (int[] a : due) {
+            Due.due("kin " + a[0] + " " + a[1], x.kin(a[0], a[1]), a[2]);
+            Due.due("kin " + a[1] + " " + a[0], x.kin(a[1], a[0]), a[2]);
+        }
     }
 
     private static void kin() {
         FamilyNames x = family();
-        Due.due("itself", x.kin(7, 7), 0);
-        Due.due("father", x.kin(1, 0), 1);
-        Due.due("son", x.kin(0, 1), 1);
-        Due.due("brothers", x.kin(1, 2), 2);
+        Due.promise(31, "KIN of two LINES.");
         Due.due("cousins", x.kin(3, 4), 4);
-        Due.due("cousins' line", x.kin(3, 5), 5);
-        Due.due("the other way round", x.kin(5, 3), 5);
-        Due.due("uncle", x.kin(1, 4), 3);
-        Due.due("the way up", x.kin(5, 0), 3);
-        Due.due("by no fathers", x.kin(0, 7), FamilyNames.NONE);
-        Due.due("by no fathers", x.kin(6, 5), FamilyNames.NONE);
-        Due.due("no line", x.kin(8, 0), FamilyNames.BAD);
-        Due.due("no line", x.kin(0, 8), FamilyNames.BAD);
-        Due.due("no line", x.kin(-1, 0), FamilyNames.BAD);
-        Due.due("no line", x.kin(0, -1), FamilyNames.BAD);
+        Due.due("itself", x.kin(7, 7), 0);
+        Due.promise(31, "BAD;");
+        for (int v : NO_LINE) {
+            Due.due("kin " + v + " 0", x.kin(v, 0), FamilyNames.BAD);
+            Due.due("kin 0 " + v, x.kin(0, v), FamilyNames.BAD);
+            Due.due("kin " + v + " twice", x.kin(v, v), FamilyNames.BAD);
+        }
+        Due.promise(31, "NONE: by no fathers.");
+        Due.due("of one name", x.kin(0, 7), FamilyNames.NONE);
+        Due.due("both without", x.kin(6, 7), FamilyNames.NONE);
+        Due.due("with and without", x.kin(6, 5), FamilyNames.NONE);
         x.father(2, FamilyNames.NONE);
         Due.due("no more", x.kin(3, 5), FamilyNames.NONE);
         Due.due("still", x.kin(2, 5), 2);
     }
 
     private static void related() {
+        Due.promise(32, "Of two LINES: 0 nothing, 1 ONE NAME alone, 2 KIN alone, 3 both.");
         FamilyNames x = family();
+        Due.due("nothing", x.related(7, 5), 0);
+        Due.due("name alone", x.related(0, 7), 1);
+        Due.due("kin alone", x.related(3, 5), 2);
+        Due.due("kin alone", x.related(5, 3), 2);
         Due.due("both", x.related(1, 2), 3);
         Due.due("itself", x.related(7, 7), 3);
-        Due.due("kin alone", x.related(3, 5), 2);
-        Due.due("name alone", x.related(0, 7), 1);
-        Due.due("nothing", x.related(7, 5), 0);
+        Due.promise(32, "BAD.");
+        for (int v : NO_LINE) {
+            Due.due("related " + v + " 0", x.related(v, 0), FamilyNames.BAD);
+            Due.due("related 0 " + v, x.related(0, v), FamilyNames.BAD);
+            Due.due("related " + v + " twice", x.related(v, v), FamilyNames.BAD);
+        }
+    }
+
+    private static void relatedByWhatHolds() {
+        Due.promise(32, "1 ONE NAME alone, 2 KIN alone,");
+        FamilyNames x = family();
         x.again(5, 0);
         Due.due("by the latest reading", x.related(3, 5), 3);
         Due.tell(x, "other 0;drop 0;");
         Due.due("by the rules that hold", x.related(7, 4), 1);
-        Due.due("no line", x.related(8, 0), FamilyNames.BAD);
-        Due.due("no line", x.related(0, 8), FamilyNames.BAD);
-        Due.due("no line", x.related(-1, 0), FamilyNames.BAD);
-        Due.due("no line", x.related(0, -1), FamilyNames.BAD);
+        Due.due("by the rules that hold", x.related(3, 4), 3);
+        x.father(4, FamilyNames.NONE);
+        Due.due("by the fathers that hold", x.related(3, 4), 1);
     }
 
     private static void issue() {
         FamilyNames x = family();
-        int[][] due = {{5, 2, 3}, {1, 0, 1}, {2, 2, 2}, {0, 0, 0}, {1, 0, 1}, {0, 0, 0}, {0, 0, 0}, {0, 0, 0}};
+        Due.promise(33, "How many LINES come of a LINE by fathers (what 0),");
+        int[] due = {5, 1, 2, 0, 1, 0, 0, 0};
         for (int k = 0; k < due.length; k++) {
-            for (int what = 0; what < 3; what++) {
-                Due.due("issue(" + k + ", " + what + ")", x.issue(k, what), due[k][what]);
-            }
+            Due.due("issue " + k, x.issue(k, 0), due[k]);
         }
-        Due.due("what", x.issue(0, 3), FamilyNames.BAD);
-        Due.due("what", x.issue(0, -1), FamilyNames.BAD);
-        Due.due("no line", x.issue(8, 0), FamilyNames.BAD);
-        Due.due("no line", x.issue(-1, 0), FamilyNames.BAD);
-        x.again(0, 1);
-        Due.due("of another name now", x.issue(0, 1), 3);
+        x.father(2, FamilyNames.NONE);
+        Due.due("fewer now", x.issue(0, 0), 2);
         FamilyNames y = Due.withWords("a", "zzzzzz");
         y.place(0, 0);
         y.book(0, 1600, 1663);
@@ -113,10 +174,43 @@ public final class KinTest {
         for (int what = 0; what < 3; what++) {
             Due.due("line 0 comes of line 1, " + what, y.issue(1, what), 1);
         }
+        Due.promise(33, "BAD.");
+        for (int what : new int[] {3, -1, Integer.MIN_VALUE, Integer.MAX_VALUE}) {
+            Due.due("what " + what, x.issue(0, what), FamilyNames.BAD);
+        }
+        for (int v : NO_LINE) {
+            Due.due("line " + v, x.issue(v, 0), FamilyNames.BAD);
+            Due.due("line " + v, x.issue(v, 2), FamilyNames.BAD);
+        }
+    }
+
+    private static void issueOfAnotherName() {
+        Due.promise(33, "how many of these are of another NAME (1),");
+        FamilyNames x = family();
+        int[] due = {2, 0, 2, 0, 0, 0, 0, 0};
+        for (int k = 0; k < due.length; k++) {
+            Due.due("issue " + k, x.issue(k, 1), due[k]);
+        }
+        x.again(0, 1);
+        Due.due("its own name is another now", x.issue(0, 1), 3);
+        Due.tell(x, "other 0;drop 0;");
+        Due.due("all are of one name now", x.issue(0, 1), 0);
+    }
+
+    private static void mostSteps() {
+        Due.promise(33, "the most steps to one of them (2).");
+        FamilyNames x = family();
+        int[] due = {3, 1, 2, 0, 1, 0, 0, 0};
+        for (int k = 0; k < due.length; k++) {
+            Due.due("issue " + k, x.issue(k, 2), due[k]);
+        }
+        x.father(7, 5);
+        Due.due("one more", x.issue(0, 2), 4);
     }
 
     /** From 1500 to 1899 there is room for 27 generations. */
     private static void longLine() {
+        Due.promise(31, "KIN of two LINES. BAD; NONE: by no fathers.");
         FamilyNames x = Due.withWords("a");
         x.place(0, 0);
         for (int b = 0; b < 7; b++) {

@@ -1,0 +1,98 @@
+import java.io.IOException;
+import java.nio.file.DirectoryStream;
+import java.nio.file.Files;
+import java.nio.file.Path;
+import java.util.Map;
+import java.util.TreeMap;
+import java.util.regex.Matcher;
+import java.util.regex.Pattern;
+
+/**
+ * The way from the document to the tests: whatever a test quotes by Due.promise or Due.terms stands
+ * in the document just once, and all words of 'Terms' and of the promises are quoted by some test.
+ */
+public final class SentencesTest {
+    private static final String TERMS = "Terms";
+    private static final Pattern LITERAL = Pattern.compile("\"((?:[^\"\\\\]|\\\\.)*)\"");
+    private static final Pattern QUOTE = Pattern.compile(
+        "Due\\.(?:promise\\((\\d+),|terms\\()\\s*(\"(?:[^\"\\\\]|\\\\.)*\"(?:\\s*\\+\\s*\"(?:[^\"\\\\]|\\\\.)*\")*)\\s*\\)");
+
+    private static final Map<String, String> TEXTS = new TreeMap<>();
+    private static final Map<String, boolean[]> QUOTED = new TreeMap<>();
+
+    public static void main(String[] args) throws IOException {
+        Path root = Path.of(System.getProperty("project.root", "."));
+        readDocument(Files.readString(root.resolve("../shared/DOC.md")));
+        Due.due("sections", TEXTS.size(), 39);
+        try (DirectoryStream<Path> files = Files.newDirectoryStream(root.resolve("src/test/java"), "*Test.java")) {
+            for (Path file : files) {
+                readTest(file.getFileName().toString(), Files.readString(file));
+            }
+        }
+        for (String section : TEXTS.keySet()) {
+            allIsQuoted(section);
+        }
+        Due.finish();
+    }
+
+    private static void readDocument(String document) {
+        Matcher calls = Pattern.compile("An object is used for at most[^\n]*").matcher(document);
+        Due.holds("the document tells how long an object is used", calls.find());
+        String terms = between(document, "## Terms\n", "\nAhead of the calls");
+        keep(TERMS, calls.group() + " " + terms.replaceAll("```\\w*|======== \\d", " "));
+        Matcher promise = Pattern.compile("## Promise (\\d+):[^\n]*\n\\s*`[^`]*`:([^#]*)").matcher(document);
+        while (promise.find()) {
+            keep("Promise " + promise.group(1), promise.group(2));
+        }
+    }
+
+    private static String between(String text, String from, String to) {
+        int start = text.indexOf(from) + from.length();
+        return text.substring(start, text.indexOf(to, start));
+    }
+
+    private static void keep(String section, String text) {
+        String plain = oneLine(text);
+        TEXTS.put(section, plain);
+        QUOTED.put(section, new boolean[plain.length()]);
+    }
+
+    private static String oneLine(String text) {
+        return text.replaceAll("\\s+", " ").trim();
+    }
+
+    private static void readTest(String file, String source) {
+        Matcher quote = QUOTE.matcher(source);
+        while (quote.find()) {
+            StringBuilder words = new StringBuilder();
+            Matcher literal = LITERAL.matcher(quote.group(2));
+            while (literal.find()) {
+                words.append(literal.group(1));
+            }
+            String section = quote.group(1) == null ? TERMS : "Promise " + quote.group(1);
+            markQuote(file, section, oneLine(words.toString()));
+        }
+    }
+
+    private static void markQuote(String file, String section, String words) {
+        String text = TEXTS.getOrDefault(section, "");
+        int at = text.indexOf(words);
+        Due.holds(file + ": '" + words + "' stands in " + section, at >= 0);
+        Due.holds(file + ": '" + words + "' stands just once in " + section, at < 0 || text.indexOf(words, at + 1) < 0);
+        for (int i = Math.max(at, 0); i < at + words.length(); i++) {
+            QUOTED.get(section)[i] = true;
+        }
+    }
+
+    private static void allIsQuoted(String section) {
+        String text = TEXTS.get(section);
+        boolean[] quoted = QUOTED.get(section);
+        StringBuilder left = new StringBuilder();
+        for (int i = 0; i < text.length(); i++) {
+            left.append(quoted[i] ? '\n' : text.charAt(i));
+        }
+        for (String part : left.toString().split("\n+")) {
+            Due.holds(section + ": no test quotes '" + part + "'", !part.matches(".*[A-Za-z0-9].*"));
+        }
+    }
+}

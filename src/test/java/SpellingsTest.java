@@ -502,6 +502,9 @@ public final class SpellingsTest {
         Due.due("a path of seven", path.standing(0), 3);
         // 1, 3 and 5 would do, too, and 1, 4 and 6.
         Due.due("the least sum", path.standing(1), 1 | 1 << 2 | 1 << 5);
+        FamilyNames alone = Due.withWords("aaaa", "bbbb", "cccc", "dddd", "eeee", "cccd");
+        Due.due("four alone and a pair", alone.standing(0), 5);
+        Due.due("the pair's least one", alone.standing(1), 31);
         FamilyNames middle = Due.withWords("aaaa", "aabb", "aaab");
         Due.due("one ahead of two with a less sum", middle.standing(1), 4);
         // A ring a b d e c: 0 and 3 would do, too, but the highest number counts, not the lowest.

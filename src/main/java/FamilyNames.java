@@ -53,7 +53,7 @@ public final class FamilyNames {
         if (!Words.isWord(letters) || words.holds(letters)) {
             return BAD;
         }
-        return words.size == Words.MOST ? FULL : words.append(letters);
+        return words.append(letters);
     }
 
     public long letters(int s) {
@@ -149,14 +149,14 @@ public final class FamilyNames {
         if (x < 0 || x > 99 || y < 0 || y > 99) {
             return BAD;
         }
-        return books.places == Books.MOST_PLACES ? FULL : books.appendPlace(x, y);
+        return books.appendPlace(x, y);
     }
 
     public int book(int place, int from, int to) {
         if (!books.hasPlace(place) || !Books.areYears(from, to) || to - from >= Books.MOST_YEARS) {
             return BAD;
         }
-        return books.size == Books.MOST ? FULL : books.append(place, from, to);
+        return books.append(place, from, to);
     }
 
     public int hole(int b, int year, boolean is) {
@@ -193,9 +193,6 @@ public final class FamilyNames {
         if (books.isHole(b, year)) {
             return STATE;
         }
-        if (lines.size == Lines.MOST) {
-            return FULL;
-        }
         return lines.append(b, year, s, kind, today);
     }
 
@@ -215,7 +212,7 @@ public final class FamilyNames {
         if (lines.latest[k] == s) {
             return STATE;
         }
-        return lines.readings == Lines.MOST_READINGS ? FULL : lines.reread(k, s, today);
+        return lines.reread(k, s, today);
     }
 
     public int lineOf(int k, int what) {

@@ -33,7 +33,7 @@ import javax.tools.ToolProvider;
 public final class Mutants {
     private static final Path CLASS = Path.of("src/main/java/FamilyNames.java");
     private static final String[] TESTS = {"SpellingsTest", "TextTest", "BooksTest", "BearersTest",
-        "KinTest", "SheetsTest", "TermsTest"};
+        "KinTest", "SheetsTest", "TermsTest", "OpeningTest"};
     private static final int LONGEST_TEST = 20_000;
 
     /** Signs and what stands in their place, one after another. */

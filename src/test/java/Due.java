@@ -16,6 +16,11 @@ final class Due {
         begin("Promise " + number + ": " + words);
     }
 
+    /** What follows looks at these words of the document's 'What it is'. */
+    static void opening(String words) {
+        begin("What it is: " + words);
+    }
+
     /** What follows looks at these words of the document's 'Terms'. */
     static void terms(String words) {
         begin("Terms: " + words);

@@ -5,6 +5,8 @@ import java.lang.reflect.Method;
 import java.lang.reflect.Modifier;
 import java.nio.file.Files;
 import java.nio.file.Path;
+import java.util.ArrayList;
+import java.util.List;
 import java.util.Set;
 import java.util.TreeSet;
 import java.util.regex.Matcher;
@@ -24,6 +26,9 @@ public final class FaceTest {
     private static final String[] FORBIDDEN = {
         "throw", "throws", "try", "catch", "finally", "synchronized", "assert", "double", "float", "native",
         "volatile", "transient", "Object", "hashCode", "toString", "System.out", "Random", "Thread"};
+    /** Of the library that LANGUAGE.md lists, what the class has use for; what is new here is looked up there first. */
+    private static final Set<String> LIBRARY = Set.of("Arrays.fill", "System.arraycopy", "Integer.bitCount",
+        "Integer.numberOfTrailingZeros", "Long.bitCount", "Math.abs", "Math.max", "Math.min");
     private static final int MOST_LINES = 60, MOST_PARAMETERS = 7, MOST_FIELDS = 20, MOST_CLASSES = 12;
 
     public static void main(String[] args) throws IOException {
@@ -40,6 +45,7 @@ public final class FaceTest {
         }
         Due.holds("few classes", FamilyNames.class.getDeclaredClasses().length < MOST_CLASSES);
         source();
+        document();
         Due.finish();
     }
 
@@ -109,8 +115,72 @@ public final class FaceTest {
         }
         Due.holds("no lambda, no method reference", !code.contains("->") && !code.contains("::"));
         Due.holds("no other import", code.replaceFirst("import java.util.Arrays;", "").indexOf("import") < 0);
+        for (String used : found("\\b((?:Arrays|System|Integer|Long|Math|Character|String|List)\\.\\w+)", code.replaceFirst("import .*", ""))) {
+            Due.holds("the library's " + used, LIBRARY.contains(used));
+        }
         rowsAreMadeInConstructors(code);
         methodsAreShort(text);
+    }
+
+    /** The face of the class, line by line, is that of the document, and so are the heads within it. */
+    private static void document() throws IOException {
+        Path root = Path.of(System.getProperty("project.root", "."));
+        Path file = root.resolve("../shared/DOC.md");
+        if (!Files.exists(file)) {
+            System.out.println("there is no document beside this checkout: its face is not looked at");
+            return;
+        }
+        String document = Files.readString(file);
+        String source = Files.readString(root.resolve("src/main/java/FamilyNames.java"));
+        List<String> told = found("(?m)^ *(public [^{};]*?)(?: \\{|;)$", faceOf(document));
+        Due.due("class, constants, constructor, methods", told.size(), 3 + METHODS.length);
+        same("the face", found("(?m)^(?: {4})?(public [^{};]*?)(?: \\{|;)$", source), told);
+        same("the promises' heads", found("(?m)^`([^`]*)`:", document), heads(told));
+        sections(document, source);
+    }
+
+    private static String faceOf(String document) {
+        Matcher block = Pattern.compile("(?s)## The public face\\s+```java\n(.*?)```").matcher(document);
+        return block.find() ? block.group(1) : "";
+    }
+
+    /** Promise 1 is the constructor, the others are the methods in their order. */
+    private static List<String> heads(List<String> told) {
+        List<String> heads = new ArrayList<>();
+        for (String line : told) {
+            if (line.endsWith(")")) {
+                heads.add(line.replaceFirst("^public ", ""));
+            }
+        }
+        return heads;
+    }
+
+    /** "Ahead of the calls .. the interface says: ..": a head, and behind it those calls. */
+    private static void sections(String document, String source) {
+        List<String> told = new ArrayList<>();
+        Matcher ahead = Pattern.compile("(?m)^Ahead of the calls (.*) the interface says: (.*)\\.$").matcher(document);
+        while (ahead.find()) {
+            told.add(ahead.group(2));
+            told.addAll(found("`(\\w+)`", ahead.group(1)));
+        }
+        Due.due("heads and calls", told.size(), 5 + METHODS.length);
+        List<String> stand = found("(?m)^ {4}(?:// (?=----)|public \\w+ (?=\\w+\\())(---- .*|\\w+)", source);
+        same("heads and calls", stand, told);
+    }
+
+    private static List<String> found(String pattern, String text) {
+        List<String> all = new ArrayList<>();
+        for (Matcher m = Pattern.compile(pattern).matcher(text); m.find();) {
+            all.add(m.group(1));
+        }
+        return all;
+    }
+
+    private static void same(String what, List<String> got, List<String> want) {
+        Due.due(what + ": how many", got.size(), want.size());
+        for (int i = 0; i < Math.min(got.size(), want.size()); i++) {
+            Due.holds(what + ": '" + got.get(i) + "', the document has '" + want.get(i) + "'", got.get(i).equals(want.get(i)));
+        }
     }
 
     /** Every "new" stands between a constructor's head and its end. */

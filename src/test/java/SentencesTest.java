@@ -8,14 +8,16 @@ import java.util.regex.Matcher;
 import java.util.regex.Pattern;
 
 /**
- * The way from the document to the tests: whatever a test quotes by Due.promise or Due.terms stands
- * in the document just once, and all words of 'Terms' and of the promises are quoted by some test.
+ * The way from the document to the tests: whatever a test quotes by Due.opening, Due.terms or
+ * Due.promise stands in the document just once, and all words of 'What it is', of 'Terms' and of the
+ * promises are quoted by some test. FaceTest looks at what stands between 'What it is' and 'Terms',
+ * and between 'Terms' and the promises.
  */
 public final class SentencesTest {
-    private static final String TERMS = "Terms";
+    private static final String OPENING = "What it is", TERMS = "Terms";
     private static final Pattern LITERAL = Pattern.compile("\"((?:[^\"\\\\]|\\\\.)*)\"");
     private static final Pattern QUOTE = Pattern.compile(
-        "Due\\.(?:promise\\((\\d+),|terms\\()\\s*(\"(?:[^\"\\\\]|\\\\.)*\"(?:\\s*\\+\\s*\"(?:[^\"\\\\]|\\\\.)*\")*)\\s*\\)");
+        "Due\\.(?:promise\\((\\d+),|(terms|opening)\\()\\s*(\"(?:[^\"\\\\]|\\\\.)*\"(?:\\s*\\+\\s*\"(?:[^\"\\\\]|\\\\.)*\")*)\\s*\\)");
 
     private static final Map<String, String> TEXTS = new TreeMap<>();
     private static final Map<String, boolean[]> QUOTED = new TreeMap<>();
@@ -28,7 +30,7 @@ public final class SentencesTest {
             return;
         }
         readDocument(Files.readString(document));
-        Due.due("sections", TEXTS.size(), 39);
+        Due.due("sections", TEXTS.size(), 40);
         try (DirectoryStream<Path> files = Files.newDirectoryStream(root.resolve("src/test/java"), "*Test.java")) {
             for (Path file : files) {
                 readTest(file.getFileName().toString(), Files.readString(file));
@@ -41,10 +43,8 @@ public final class SentencesTest {
     }
 
     private static void readDocument(String document) {
-        Matcher calls = Pattern.compile("An object is used for at most[^\n]*").matcher(document);
-        Due.holds("the document tells how long an object is used", calls.find());
-        String terms = between(document, "## Terms\n", "\nAhead of the calls");
-        keep(TERMS, calls.group() + " " + terms.replaceAll("```\\w*|======== \\d", " "));
+        keep(OPENING, between(document, "## What it is\n", "\n## The public face"));
+        keep(TERMS, between(document, "## Terms\n", "\nAhead of the calls").replaceAll("```\\w*|======== \\d", " "));
         Matcher promise = Pattern.compile("## Promise (\\d+):[^\n]*\n\\s*`[^`]*`:([^#]*)").matcher(document);
         while (promise.find()) {
             keep("Promise " + promise.group(1), promise.group(2));
@@ -70,13 +70,19 @@ public final class SentencesTest {
         Matcher quote = QUOTE.matcher(source);
         while (quote.find()) {
             StringBuilder words = new StringBuilder();
-            Matcher literal = LITERAL.matcher(quote.group(2));
+            Matcher literal = LITERAL.matcher(quote.group(3));
             while (literal.find()) {
                 words.append(literal.group(1));
             }
-            String section = quote.group(1) == null ? TERMS : "Promise " + quote.group(1);
-            markQuote(file, section, oneLine(words.toString()));
+            markQuote(file, sectionOf(quote), oneLine(words.toString()));
         }
+    }
+
+    private static String sectionOf(Matcher quote) {
+        if (quote.group(1) != null) {
+            return "Promise " + quote.group(1);
+        }
+        return quote.group(2).equals("opening") ? OPENING : TERMS;
     }
 
     private static void markQuote(String file, String section, String words) {

@@ -91,7 +91,7 @@ public final class TermsTest {
     }
 
     private static void manyCalls() {
-        Due.terms("An object is used for at most 512 calls after it has been made; what later calls answer is free.");
+        Due.opening("An object is used for at most 512 calls after it has been made; what later calls answer is free.");
         FamilyNames x = new FamilyNames();
         int calls = 0;
         for (; calls < 16; calls++) {
